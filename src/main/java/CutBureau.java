@@ -893,7 +893,6 @@ public final class CutBureau {
                     depth++;
                     oneBoth &= ~(1 << depth);
                     allItems |= 1 << depth;
-                    turned &= ~(1 << depth);
                 } else if (sign == '!') {
                     turned ^= 1 << depth;
                 } else if (sign == '|') {

@@ -10,6 +10,7 @@ public final class PagesTest {
         ofPage();
         piece();
         about();
+        family();
         word();
         clash();
         CHECKS.end();
@@ -58,6 +59,8 @@ public final class PagesTest {
         CHECKS.due("page(9, 99) the 9th", x.page(9, 99), -4);
         CHECKS.due("page(10, 99) the 9th", x.page(10, 99), -2);
         CHECKS.due("told(0)", x.told(0), 8);
+        CHECKS.due("ofPage(7, 0)", x.ofPage(7, 0), 9);
+        CHECKS.due("ofPage(8, 0), of eight", x.ofPage(8, 0), -1);
     }
 
     private static void write() {
@@ -160,6 +163,8 @@ public final class PagesTest {
         CHECKS.due("piece(0, 0, 5, 0, 9) the 25th", x.piece(0, 0, 5, 0, 9), -4);
         CHECKS.due("piece(0, 0, 6, 0, 9) the 25th", x.piece(0, 0, 6, 0, 9), -2);
         CHECKS.due("told(1)", x.told(1), 24);
+        CHECKS.due("about(23, 0)", x.about(23, 0), 0);
+        CHECKS.due("about(24, 0), of 24", x.about(24, 0), -1);
     }
 
     private static void about() {
@@ -210,6 +215,42 @@ public final class PagesTest {
         x.send(0, 2);
         CHECKS.due("about(0, 3)", x.about(0, 3), 6);
         CHECKS.due("about(1, 3)", x.about(1, 3), 0);
+    }
+
+    private static void family() {
+        CHECKS.about("promise 7, families");
+        CutBureau x = new CutBureau();
+        x.page(0, 0);
+        for (int line = 0; line < 6; line++) {
+            x.piece(0, line, line, 0, 9);
+        }
+        x.set(0, 100);
+        CHECKS.due("about(0, 5), all without words", x.about(0, 5), 1);
+        x.write(0, 50, 1);
+        CHECKS.due("about(5, 5), the others without words", x.about(5, 5), 1);
+        x.write(0, 40, 2);
+        CHECKS.due("about(5, 5), one with another word", x.about(5, 5), 2);
+        CHECKS.due("about(5, 4)", x.about(5, 4), 4);
+        x.set(0, 99);
+        CHECKS.due("about(5, 4), alike 99", x.about(5, 4), 5);
+        x.set(0, 0);
+        x.write(0, 40, 1);
+        CHECKS.due("about(5, 4), alike 0, the same word", x.about(5, 4), 4);
+        x.write(0, 40, 2);
+        CHECKS.due("about(5, 4), alike 0, another word", x.about(5, 4), 5);
+        Checks.write(x, 0, 0, 1, 2, 3);
+        Checks.write(x, 0, 10, 1, 2, 4);
+        Checks.write(x, 0, 20, 1, 2);
+        x.set(0, 33);
+        CHECKS.due("about(0, 5), one of three, alike 33", x.about(0, 5), 1);
+        x.set(0, 34);
+        CHECKS.due("about(0, 5), one of three, alike 34", x.about(0, 5), 3);
+        CHECKS.due("about(2, 4)", x.about(2, 4), 0);
+        x.write(0, 30, 4);
+        x.set(0, 66);
+        CHECKS.due("about(3, 5), one word of three", x.about(3, 5), 1);
+        x.set(0, 67);
+        CHECKS.due("about(3, 5), one word of three, alike 67", x.about(3, 5), 6);
     }
 
     private static void word() {
