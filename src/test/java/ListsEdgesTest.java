@@ -41,7 +41,8 @@ public final class ListsEdgesTest {
             x.by("piece(0, " + line + ", " + line + ", 0, 9)");
         }
         x.due(0, "changes(0, 0)", "changes(0, 1)", "changes(4, 4)", "changes(4, 5)");
-        x.due(2, "changes(0, 2)", "changes(2, 0)").due(3, "changes(0, 3)", "changes(3, 0)", "changes(0, 4)", "changes(4, 0)");
+        x.due(2, "changes(0, 2)", "changes(2, 0)")
+                .due(3, "changes(0, 3)", "changes(3, 0)", "changes(0, 4)", "changes(4, 0)");
         x.due(1, "changes(3, 4)", "changes(4, 3)");
     }
 
@@ -50,13 +51,15 @@ public final class ListsEdgesTest {
         x.by("page(0, 0)", "page(0, 0)", "page(0, 0)").fill(0, 0, 60, 1).fill(1, 0, 60, 2);
         x.by("piece(0, 0, 5, 0, 9)", "piece(1, 0, 5, 0, 9)", "piece(2, 0, 5, 0, 9)", "piece(0, 0, 5, 0, 9)");
         x.by("piece(0, 0, 0, 0, 0)");
-        x.due(60, "changes(0, 1)", "changes(1, 0)", "changes(0, 2)", "changes(2, 0)").due(0, "changes(0, 3)", "changes(2, 2)");
+        x.due(60, "changes(0, 1)", "changes(1, 0)", "changes(0, 2)", "changes(2, 0)")
+                .due(0, "changes(0, 3)", "changes(2, 2)");
         x.due(59, "changes(0, 4)", "changes(4, 0)").due(60, "changes(4, 1)").due(1, "changes(4, 2)");
     }
 
     private static void droppedPutInMade() {
         Run x = run("that are dropped, put in, or made another one");
-        x.by("page(0, 0)").words(0, 0, 1, 2, 3, 4).words(0, 10, 2, 3, 4).words(0, 20, 1, 2, 5, 3, 4).words(0, 30, 1, 2, 6, 4);
+        x.by("page(0, 0)").words(0, 0, 1, 2, 3, 4).words(0, 10, 2, 3, 4).words(0, 20, 1, 2, 5, 3, 4)
+                .words(0, 30, 1, 2, 6, 4);
         x.words(0, 40, 2, 1, 3, 4);
         for (int line = 0; line < 5; line++) {
             x.by("piece(0, " + line + ", " + line + ", 0, 9)");
@@ -68,7 +71,8 @@ public final class ListsEdgesTest {
     private static void bothHaveWords() {
         Run x = run("DOUBLES: two that both have WORDS");
         x.by("page(0, 0)", "set(0, 100)", "piece(0, 0, 0, 0, 9)", "piece(0, 1, 1, 0, 9)", "piece(0, 2, 2, 0, 9)");
-        x.due(1, "about(0, 5)", "about(1, 5)", "about(2, 5)", "about(1, 4)").due(2, "about(2, 4)").due(0, "about(0, 4)");
+        x.due(1, "about(0, 5)", "about(1, 5)", "about(2, 5)", "about(1, 4)").due(2, "about(2, 4)")
+                .due(0, "about(0, 4)");
         x.by("write(0, 10, 5)").due(1, "about(0, 5)", "about(1, 5)", "about(2, 5)");
         x.by("write(0, 20, 6)").due(1, "about(0, 5)").due(2, "about(1, 5)", "about(2, 5)").due(1, "about(2, 4)");
         x.by("write(0, 10, -1)").due(1, "about(2, 5)").due(2, "about(2, 4)");
@@ -96,7 +100,8 @@ public final class ListsEdgesTest {
     private static void alikeZero() {
         Run x = run("ALIKE (0 to 100; 20 at first)");
         x.by("page(0, 0)", "set(0, 0)").words(0, 0, 1, 2).words(0, 10, 1, 2).words(0, 20, 1, 3);
-        x.by("piece(0, 0, 0, 0, 9)", "piece(0, 1, 1, 0, 9)", "piece(0, 2, 2, 0, 9)", "piece(0, 3, 3, 0, 9)", "piece(0, 3, 3, 0, 0)");
+        x.by("piece(0, 0, 0, 0, 9)", "piece(0, 1, 1, 0, 9)", "piece(0, 2, 2, 0, 9)", "piece(0, 3, 3, 0, 9)",
+                "piece(0, 3, 3, 0, 0)");
         x.due(2, "about(0, 5)", "about(1, 5)").due(1, "about(2, 5)", "about(3, 5)", "about(4, 5)");
     }
 
@@ -104,14 +109,17 @@ public final class ListsEdgesTest {
         Run x = run("CHANGES times 100 are no more than ALIKE (0 to 100; 20 at first) times the WORDS of the longer one.");
         x.by("page(0, 0)", "set(0, 100)").words(0, 0, 1, 2, 3).words(0, 10, 9).words(0, 20, 4, 5);
         x.by("piece(0, 0, 0, 0, 9)", "piece(0, 1, 1, 0, 9)", "piece(0, 3, 3, 0, 9)");
-        x.due(2, "about(0, 5)", "about(1, 5)").due(1, "about(2, 5)").by("set(0, 99)").due(1, "about(0, 5)", "about(1, 5)");
+        x.due(2, "about(0, 5)", "about(1, 5)").due(1, "about(2, 5)").by("set(0, 99)")
+                .due(1, "about(0, 5)", "about(1, 5)");
         x.by("piece(0, 2, 2, 0, 9)", "set(0, 100)").due(3, "about(0, 5)", "about(3, 5)");
     }
 
     private static void longestDoubles() {
         Run x = run("CHANGES times 100 are no more than ALIKE");
-        x.by("page(0, 0)", "page(0, 0)", "piece(0, 0, 5, 0, 9)", "piece(1, 0, 5, 0, 9)").fill(0, 0, 60, 1).fill(1, 0, 48, 1);
-        x.due(12, "changes(0, 1)").due(2, "about(0, 5)").by("write(1, 47, -1)").due(13, "changes(0, 1)").due(1, "about(0, 5)");
+        x.by("page(0, 0)", "page(0, 0)", "piece(0, 0, 5, 0, 9)", "piece(1, 0, 5, 0, 9)").fill(0, 0, 60, 1)
+                .fill(1, 0, 48, 1);
+        x.due(12, "changes(0, 1)").due(2, "about(0, 5)").by("write(1, 47, -1)").due(13, "changes(0, 1)")
+                .due(1, "about(0, 5)");
         x.fill(1, 47, 13, 2).due(13, "changes(1, 0)").due(1, "about(1, 5)").by("write(1, 59, 1)").due(2, "about(1, 5)");
         x.by("set(0, 0)").due(1, "about(0, 5)").fill(1, 47, 12, 1).due(2, "about(0, 5)");
     }
@@ -127,7 +135,8 @@ public final class ListsEdgesTest {
         for (int i = 1; i < 6; i++) {
             x.due(5, "about(" + i + ", 5)").due(1, "about(" + i + ", 4)");
         }
-        x.by("write(0, 20, 7)").due(2, "about(1, 5)", "about(2, 5)", "about(4, 5)", "about(5, 5)").due(1, "about(3, 5)");
+        x.by("write(0, 20, 7)").due(2, "about(1, 5)", "about(2, 5)", "about(4, 5)", "about(5, 5)")
+                .due(1, "about(3, 5)");
         x.due(1, "about(2, 4)").due(3, "about(3, 4)").due(4, "about(5, 4)");
     }
 
@@ -148,7 +157,8 @@ public final class ListsEdgesTest {
         Run x = run("5 how many are in that.");
         x.by("page(0, 0)", "write(0, 0, 1)").by(24, "piece(0, 0, 0, 0, 0)");
         x.due(24, "about(0, 5)", "about(23, 5)").due(0, "about(0, 4)", "about(23, 4)").order("1", true);
-        x.due(1, "list(0, 0, -1)").due(0, "list(0, 0, 0)").by("write(0, 0, -1)").due(1, "about(0, 5)").due(23, "about(23, 4)");
+        x.due(1, "list(0, 0, -1)").due(0, "list(0, 0, 0)").by("write(0, 0, -1)").due(1, "about(0, 5)")
+                .due(23, "about(23, 4)");
     }
 
     private static void piecesOfThatDay() {
@@ -158,7 +168,8 @@ public final class ListsEdgesTest {
             x.by("piece(" + page + ", 0, 0, 0, 0)");
         }
         x.order("!1", false).say("!1").by("order(0, 1023, 1, 98, 20, false)");
-        x.due(1, "list(0, 0, -1)", "list(0, 1, -1)", "list(0, 98, -1)", "list(0, 99, -1)", "list(1, 1, -1)", "list(1, 98, -1)");
+        x.due(1, "list(0, 0, -1)", "list(0, 1, -1)", "list(0, 98, -1)", "list(0, 99, -1)", "list(1, 1, -1)",
+                "list(1, 98, -1)");
         x.due(0, "list(0, 0, 0)", "list(0, 2, -1)", "list(0, 97, -1)", "list(1, 0, -1)", "list(1, 99, -1)");
         x.due(3, "list(0, 99, 0)").due(2, "list(1, 98, 0)").due(-6, "list(1, 99, 0)", "list(1, 0, 0)");
     }
@@ -188,14 +199,16 @@ public final class ListsEdgesTest {
         Run x = run("(by DAY, PAPER, number)");
         x.by("page(5, 6)", "page(4, 6)", "write(0, 0, 1)", "write(1, 0, 1)");
         x.by("piece(0, 0, 0, 0, 0)", "piece(1, 0, 0, 0, 0)").order("1", true);
-        x.due(1, "list(0, 6, -1)", "list(0, 6, 0)").due(-6, "list(0, 6, 1)").by("write(1, 0, 2)").due(0, "list(0, 6, 0)");
+        x.due(1, "list(0, 6, -1)", "list(0, 6, 0)").due(-6, "list(0, 6, 1)").by("write(1, 0, 2)")
+                .due(0, "list(0, 6, 0)");
     }
 
     private static void onceByNumber() {
         Run x = run("ahead of which (by DAY, PAPER, number) there is one of their FAMILY");
         x.by("page(5, 6)", "page(5, 6)", "write(0, 0, 1)", "write(1, 0, 1)");
         x.by("piece(1, 0, 0, 0, 0)", "piece(0, 0, 0, 0, 0)", "piece(1, 0, 0, 0, 0)").order("1", true);
-        x.due(1, "list(0, 6, -1)").due(0, "list(0, 6, 0)").by("write(1, 0, -1)").due(1, "list(0, 6, -1)", "list(0, 6, 0)");
+        x.due(1, "list(0, 6, -1)").due(0, "list(0, 6, 0)").by("write(1, 0, -1)")
+                .due(1, "list(0, 6, -1)", "list(0, 6, 0)");
     }
 
     private static void onceOnlyThoseWanted() {
@@ -212,7 +225,8 @@ public final class ListsEdgesTest {
 
     private static void onceThenMost() {
         Run x = run("of these the first ones, as many as the MOST.");
-        x.by("page(0, 0)").words(0, 0, 1, 2, 3).by("piece(0, 0, 0, 0, 0)", "piece(0, 0, 0, 0, 0)", "piece(0, 0, 0, 1, 1)");
+        x.by("page(0, 0)").words(0, 0, 1, 2, 3)
+                .by("piece(0, 0, 0, 0, 0)", "piece(0, 0, 0, 0, 0)", "piece(0, 0, 0, 1, 1)");
         x.by("piece(0, 0, 0, 1, 1)", "piece(0, 0, 0, 2, 2)").say("1|2|3").by("order(0, 1, 0, 0, 2, true)");
         x.say("1|2|3").by("order(0, 1, 0, 0, 3, true)").say("1|2|3").by("order(0, 1, 0, 0, 0, true)");
         x.due(2, "list(0, 0, -1)", "list(0, 0, 1)").due(0, "list(0, 0, 0)").due(-6, "list(0, 0, 2)");
@@ -232,7 +246,8 @@ public final class ListsEdgesTest {
         Run x = run("CHANGES. UNKNOWN.");
         x.due(-1, "changes(0, 0)").by("page(0, 0)", "write(0, 0, 1)", "piece(0, 0, 0, 0, 0)", "piece(0, 0, 0, 1, 1)");
         x.due(0, "changes(0, 0)", "changes(1, 1)").due(1, "changes(0, 1)", "changes(1, 0)");
-        x.due(-1, "changes(2, 0)", "changes(0, 2)", "changes(-1, 0)", "changes(0, -1)", "changes(2, 2)", "changes(-1, -1)");
+        x.due(-1, "changes(2, 0)", "changes(0, 2)", "changes(-1, 0)", "changes(0, -1)", "changes(2, 2)",
+                "changes(-1, -1)");
         x.due(-1, "changes(MIN, 0)", "changes(0, MAX)");
     }
 
@@ -263,6 +278,7 @@ public final class ListsEdgesTest {
         x.due(2, "list(0, 5, -1)").due(0, "list(0, 5, 0)").due(1, "list(0, 5, 1)");
         x.due(-6, "list(0, 5, 2)", "list(0, 5, -2)", "list(0, 5, MIN)", "list(0, 5, MAX)", "list(0, 4, 0)");
         x.due(-2, "list(0, -1, -1)", "list(0, 100, -1)", "list(0, -1, 0)", "list(0, 100, 9)");
-        x.due(-1, "list(1, 5, -1)", "list(-1, 5, -1)", "list(1, 100, -1)", "list(-1, -1, 0)", "list(MIN, 5, 0)", "list(MAX, 5, 0)");
+        x.due(-1, "list(1, 5, -1)", "list(-1, 5, -1)", "list(1, 100, -1)", "list(-1, -1, 0)", "list(MIN, 5, 0)",
+                "list(MAX, 5, 0)");
     }
 }

@@ -21,6 +21,9 @@ public final class OrdersEdgesTest {
         farthestNear();
         moreThanIsSo();
         bracketsAndTurns();
+        bracketsByThemselves();
+        turnsOneItem();
+        twoDigitsWithMore();
         orders10();
         clients();
         papers();
@@ -48,7 +51,8 @@ public final class OrdersEdgesTest {
         }
         x.due(-4, "say(49)", "say(33)").due(40, "told(3)").due(-6, "fault()").due(0, "order(0, 1, 0, 0, 0, false)");
         x.due(0, "told(3)").due(1, "say(49)");
-        x.by("page(0, 0)", "piece(0, 0, 0, 0, 0)").due(1, "wants(0, 0, 1)").by("write(0, 0, 1)").due(0, "wants(0, 0, 1)");
+        x.by("page(0, 0)", "piece(0, 0, 0, 0, 0)").due(1, "wants(0, 0, 1)").by("write(0, 0, 1)")
+                .due(0, "wants(0, 0, 1)");
     }
 
     private static void codes() {
@@ -79,7 +83,8 @@ public final class OrdersEdgesTest {
 
     private static void kindsOfItem() {
         Run x = run("an ITEM: ! ITEM, or ( RULE ), or a WORD");
-        x.fault(-6, "!1").fault(-6, "!!1").fault(-6, "!(1)").fault(-6, "(!1)").fault(-6, "((1))").fault(-6, "(1|2)&!(3)");
+        x.fault(-6, "!1").fault(-6, "!!1").fault(-6, "!(1)").fault(-6, "(!1)").fault(-6, "((1))")
+                .fault(-6, "(1|2)&!(3)");
         x.fault(1, "!").fault(1, "!|").fault(1, "!&").fault(1, "!)").fault(1, "!~").fault(1, "1!").fault(1, "1(");
         x.fault(1, "()").fault(1, "1)").fault(3, "(1))").fault(2, "(1").fault(3, "(1)!").fault(0, "a").fault(0, "~");
         x.fault(0, ")").fault(0, ":").fault(0, ">");
@@ -88,21 +93,25 @@ public final class OrdersEdgesTest {
     private static void nearness() {
         Run x = run("and then perhaps a ~, a digit d, a : and another WORD");
         x.fault(-6, "1~0:2").fault(-6, "1~9:2").fault(-6, "12~9:34").fault(-6, "1~1:1");
-        x.fault(2, "1~").fault(3, "1~1").fault(4, "1~1:").fault(2, "1~a").fault(2, "1~:").fault(3, "1~10:2").fault(3, "1~1&2");
-        x.fault(4, "1~1:a").fault(4, "1~1:&").fault(4, "1~1:(2)").fault(4, "1~1:!2").fault(5, "1~1:2~1:3").fault(5, "1~1:2>3");
+        x.fault(2, "1~").fault(3, "1~1").fault(4, "1~1:").fault(2, "1~a").fault(2, "1~:").fault(3, "1~10:2")
+                .fault(3, "1~1&2");
+        x.fault(4, "1~1:a").fault(4, "1~1:&").fault(4, "1~1:(2)").fault(4, "1~1:!2").fault(5, "1~1:2~1:3")
+                .fault(5, "1~1:2>3");
         x.fault(5, "1~1:2:3").fault(3, "(1)~1:2").fault(3, "1~1~").fault(1, "1:2");
     }
 
     private static void counts() {
         Run x = run("or a > and a digit n.");
         x.fault(-6, "1>0").fault(-6, "1>9").fault(-6, "12>9").fault(-6, "1>2&3>4").fault(-6, "(1>2)");
-        x.fault(2, "1>").fault(2, "1>a").fault(3, "1>10").fault(3, "1>1>2").fault(3, "1>1~2:3").fault(3, "(1)>1").fault(2, "1>>");
+        x.fault(2, "1>").fault(2, "1>a").fault(3, "1>10").fault(3, "1>1>2").fault(3, "1>1~2:3").fault(3, "(1)>1")
+                .fault(2, "1>>");
         x.fault(2, "1>&").fault(2, "1>)");
     }
 
     private static void digitsOfWords() {
         Run x = run("A WORD, as a WORD's number, has 1 or 2 digits.");
-        x.fault(-6, "0").fault(-6, "9").fault(-6, "00").fault(-6, "99").fault(2, "000").fault(2, "100").fault(3, "!123");
+        x.fault(-6, "0").fault(-6, "9").fault(-6, "00").fault(-6, "99").fault(2, "000").fault(2, "100")
+                .fault(3, "!123");
         x.fault(-6, "1~1:0").fault(-6, "1~1:99").fault(6, "1~1:100").fault(7, "12~1:345");
         x.by("page(0, 0)").words(0, 0, 7, 0, 99, 10).by("piece(0, 0, 0, 0, 9)");
         x.so(1, 0, "07", 0).so(1, 1, "7", 0).so(1, 2, "00", 0).so(1, 3, "0", 0).so(1, 4, "99", 0).so(0, 5, "70", 0);
@@ -113,13 +122,15 @@ public final class OrdersEdgesTest {
         Run x = run("(a ( not within 8 others)");
         x.fault(-6, "((((((((1))))))))").fault(8, "(((((((((1)))))))))").fault(8, "(((((((((").fault(8, "((((((((");
         x.fault(9, "!(((((((((1").fault(9, "((((((((!(1").fault(-6, "((((((((!1))))))))");
-        x.fault(-6, "(((((((1)&(2)))))))").fault(-6, "((((((((1)))))))&(2))").fault(10, "((((((((1&(2").fault(13, "((((((((1)&(2");
+        x.fault(-6, "(((((((1)&(2)))))))").fault(-6, "((((((((1)))))))&(2))").fault(10, "((((((((1&(2")
+                .fault(13, "((((((((1)&(2");
         x.fault(14, "(((((((1|(2)&((3").fault(-6, "((((((((1))))))))|((((((((2))))))))");
     }
 
     private static void moreMustCome() {
         Run x = run("the number of signs, if more must come.");
-        x.fault(0, "").fault(1, "!").fault(1, "(").fault(2, "(1").fault(2, "1|").fault(2, "1&").fault(2, "1~").fault(3, "1~1");
+        x.fault(0, "").fault(1, "!").fault(1, "(").fault(2, "(1").fault(2, "1|").fault(2, "1&").fault(2, "1~")
+                .fault(3, "1~1");
         x.fault(4, "1~1:").fault(2, "1>").fault(3, "(12").fault(6, "(1~1:2").fault(4, "(1>1").fault(4, "((1)");
         x.fault(40, "!!!!!!!!!!!!!!!!!!!!!!!!!!!!!!!!!!!!!!!!").fault(40, "1&2&3&4&5&6&7&8&9&0&1&2&3&4&5&6&7&8&9&0&");
         x.fault(40, "(1&2&3&4&5&6&7&8&9&0&1&2&3&4&5&6&7&8&9&0");
@@ -134,7 +145,8 @@ public final class OrdersEdgesTest {
     private static void wordIsSo() {
         Run x = run("a WORD is so, if it is one of its WORDS");
         x.by("page(0, 0)").words(0, 11, 1, 2, 3, 4).by("piece(0, 1, 1, 2, 3)", "piece(0, 2, 5, 0, 9)");
-        x.so(0, 0, "1", 0).so(1, 1, "2", 0).so(1, 2, "3", 0).so(0, 3, "4", 0).so(0, 4, "0", 0).so(0, 5, "2", 1).so(1, 6, "!2", 1);
+        x.so(0, 0, "1", 0).so(1, 1, "2", 0).so(1, 2, "3", 0).so(0, 3, "4", 0).so(0, 4, "0", 0).so(0, 5, "2", 1)
+                .so(1, 6, "!2", 1);
         x.by("write(0, 12, -1)").due(0, "wants(1, 0, 1)").by("write(0, 20, 2)").due(1, "wants(1, 1, 1)");
     }
 
@@ -179,9 +191,33 @@ public final class OrdersEdgesTest {
         x.by("page(0, 0)", "write(0, 0, 1)", "piece(0, 0, 0, 0, 0)");
         x.so(1, 0, "((((((((1))))))))", 0).so(0, 1, "!((((((((1))))))))", 0).so(1, 2, "((((((((!2))))))))", 0);
         x.so(0, 3, "!(!(!(!(!(!(!(!(!1))))))))", 0).so(1, 4, "!(!(!(!(!(!(!(!(1))))))))", 0);
-        x.so(0, 5, "!!!!!!!!!!!!!!!!!!!!!!!!!!!!!!!!!!!!!!!1", 0).so(1, 6, "!!!!!!!!!!!!!!!!!!!!!!!!!!!!!!!!!!!!!!1", 0);
+        x.so(0, 5, "!!!!!!!!!!!!!!!!!!!!!!!!!!!!!!!!!!!!!!!1", 0)
+                .so(1, 6, "!!!!!!!!!!!!!!!!!!!!!!!!!!!!!!!!!!!!!!1", 0);
         x.so(1, 7, "2|2|2|2|2|2|2|2|2|2|2|2|2|2|2|2|2|2|2|1", 0).so(0, 8, "1&1&1&1&1&1&1&1&1&1&1&1&1&1&1&1&1&1&1&2", 0);
         x.so(1, 9, "1|2&2", 0);
+    }
+
+    private static void bracketsByThemselves() {
+        Run x = run("or ( RULE )");
+        x.by("page(0, 0)", "write(0, 0, 1)", "piece(0, 0, 0, 0, 0)");
+        x.so(0, 0, "(1|2)&(2|3)", 0).so(0, 1, "2&(2|1)", 0).so(1, 2, "(2|1)&1", 0).so(0, 3, "(1|(1|2))&(2|(2|3))", 0);
+        x.so(1, 4, "1|(2&3)", 0).so(0, 5, "(2&(1|1))|2", 0).so(1, 6, "((2|1)&(1))&1", 0).so(1, 7, "(1|2&(3))", 0);
+        x.so(0, 8, "((2)|3)&((1)|2)", 0).so(1, 9, "2|((((((((1|2))))))))&1", 0);
+    }
+
+    private static void turnsOneItem() {
+        Run x = run("an ITEM: ! ITEM");
+        x.by("page(0, 0)", "write(0, 0, 1)", "piece(0, 0, 0, 0, 0)");
+        x.so(1, 0, "!2&1", 0).so(0, 1, "!2&2", 0).so(1, 2, "!2|2", 0).so(1, 3, "!(2)&1", 0).so(1, 4, "!(2&1)&1", 0);
+        x.so(0, 5, "!(1|2)|2", 0).so(1, 6, "(!2)&1", 0).so(1, 7, "!02", 0).so(0, 8, "!01", 0).so(1, 9, "!(!1)&!(2)", 0);
+    }
+
+    private static void twoDigitsWithMore() {
+        Run x = run("A WORD, as a WORD's number, has 1 or 2 digits");
+        x.by("page(0, 0)").words(0, 0, 12, 34, 2, 12, 10).by("piece(0, 0, 0, 0, 9)");
+        x.so(1, 0, "12~1:34", 0).so(1, 1, "34~1:02", 0).so(1, 2, "12>1", 0).so(0, 3, "12>2", 0).so(0, 4, "10>1", 0);
+        x.so(1, 5, "34~2:12", 0).so(0, 6, "10~1:2", 0).so(1, 7, "2~1:12", 0).so(0, 8, "12~2:12", 0)
+                .so(1, 9, "10>0|12~3:12", 0);
     }
 
     private static void orders10() {
@@ -197,7 +233,8 @@ public final class OrdersEdgesTest {
 
     private static void clients() {
         Run x = run("of a CLIENT (0 to 5), a RULE");
-        x.say("1").due(-2, "order(-1, 1, 0, 0, 0, false)", "order(6, 1, 0, 0, 0, false)", "order(MIN, 1, 0, 0, 0, false)");
+        x.say("1").due(-2, "order(-1, 1, 0, 0, 0, false)", "order(6, 1, 0, 0, 0, false)",
+                "order(MIN, 1, 0, 0, 0, false)");
         x.due(-2, "order(MAX, 1, 0, 0, 0, false)").due(0, "order(0, 1, 0, 0, 0, false)").say("1");
         x.due(1, "order(5, 1, 0, 0, 0, false)").due(-1, "bill(6, 0)", "bill(-1, 0)", "miss(6)", "miss(-1)");
         x.due(0, "bill(0, 0)", "bill(5, 0)").due(1, "miss(0)", "miss(5)");
@@ -223,7 +260,8 @@ public final class OrdersEdgesTest {
             x.by("piece(" + page + ", 0, 0, 0, 0)");
         }
         x.say("!1").due(0, "order(0, 1, 5, 7, 9, false)").say("!1").due(1, "order(0, 1, 6, 6, 9, false)");
-        x.say("!1").due(-2, "order(0, 1, 7, 6, 9, false)", "order(0, 1, 99, 0, 9, false)").due(2, "order(0, 1, 0, 99, 9, false)");
+        x.say("!1").due(-2, "order(0, 1, 7, 6, 9, false)", "order(0, 1, 99, 0, 9, false)")
+                .due(2, "order(0, 1, 0, 99, 9, false)");
         x.due(0, "wants(0, 0, 0)", "wants(0, 4, 0)", "list(0, 4, -1)", "list(0, 8, -1)");
         x.due(1, "wants(0, 1, 0)", "wants(0, 2, 0)", "wants(0, 3, 0)", "list(0, 5, -1)", "list(0, 7, -1)");
         x.due(0, "wants(1, 1, 0)", "wants(1, 3, 0)").due(1, "wants(1, 2, 0)", "wants(2, 0, 0)", "wants(2, 4, 0)");
@@ -272,7 +310,8 @@ public final class OrdersEdgesTest {
     private static void orderTakesSigns() {
         Run x = run("An ORDER with the signs as its RULE (they are empty then): its number.");
         x.by("page(0, 0)", "write(0, 0, 1)", "piece(0, 0, 0, 0, 0)");
-        x.say("1").due(0, "order(0, 1, 0, 0, 0, false)").due(0, "told(3)", "fault()").due(-5, "order(0, 1, 0, 0, 0, false)");
+        x.say("1").due(0, "order(0, 1, 0, 0, 0, false)").due(0, "told(3)", "fault()")
+                .due(-5, "order(0, 1, 0, 0, 0, false)");
         x.say("2").due(1, "wants(0, 0, 1)").due(1, "order(0, 1, 0, 0, 0, false)").due(1, "wants(0, 0, 1)");
         x.due(0, "wants(1, 0, 1)").say("2|3").by("wipe()").due(1, "wants(0, 0, 1)").due(0, "wants(1, 0, 1)");
     }
@@ -293,7 +332,8 @@ public final class OrdersEdgesTest {
             x.say("1").by("order(0, 1, 0, 0, 0, true)");
         }
         x.due(-4, "order(0, 1, 0, 0, 0, true)").due(-2, "order(0, 1, 1, 0, 0, true)", "order(-1, 1, 0, 0, 0, true)");
-        x.say("12").due(-4, "order(0, 1, 0, 0, 0, true)").due(2, "told(3)").say("3").due(-4, "order(0, 1, 0, 0, 0, true)");
+        x.say("12").due(-4, "order(0, 1, 0, 0, 0, true)").due(2, "told(3)").say("3")
+                .due(-4, "order(0, 1, 0, 0, 0, true)");
         x.due(3, "told(3)").due(2, "fault()").due(-2, "order(0, 1, 0, 0, 21, true)").due(10, "told(2)");
     }
 

@@ -211,7 +211,8 @@ public final class PagesEdgesTest {
         Run x = run("Two PIECES CLASH, if they have a PLACE in common");
         x.by("page(0, 0)", "page(0, 0)", "piece(0, 2, 3, 4, 6)");
         String[] near = {"1, 1, 0, 9", "4, 5, 0, 9", "0, 5, 0, 3", "0, 5, 7, 9", "0, 1, 0, 3", "4, 4, 7, 7"};
-        String[] on = {"1, 2, 3, 4", "3, 4, 6, 7", "0, 2, 6, 9", "3, 5, 0, 4", "2, 3, 4, 6", "3, 3, 5, 5", "0, 5, 0, 9"};
+        String[] on = {"1, 2, 3, 4", "3, 4, 6, 7", "0, 2, 6, 9", "3, 5, 0, 4", "2, 3, 4, 6", "3, 3, 5, 5",
+                "0, 5, 0, 9"};
         for (String place : near) {
             x.by("piece(0, " + place + ")");
         }
@@ -268,22 +269,26 @@ public final class PagesEdgesTest {
         x.due(-1, "write(2, 59, 8)").due(7, "ofPage(0, 159)").due(-6, "write(1, 0, 8)");
         x.by("file(1, 0)").due(7, "write(0, 59, 8)");
         x.by("file(1, 8)").due(-3, "write(0, 59, 9)").by("file(1, 0)").due(8, "write(0, 59, 9)");
-        x.by("send(0, 0)").due(-3, "write(0, 59, 8)", "write(0, 0, 1)").due(9, "ofPage(0, 159)").due(8, "write(1, 0, 9)");
+        x.by("send(0, 0)").due(-3, "write(0, 59, 8)", "write(0, 0, 1)").due(9, "ofPage(0, 159)")
+                .due(8, "write(1, 0, 9)");
     }
 
     private static void sides() {
         Run x = run("UNKNOWN: also both are one; STATE: unlike PAPERS or DAYS; NO: one is a SIDE already.");
         x.by("page(1, 1)", "page(1, 1)", "page(1, 2)");
-        x.due(-1, "sides(0, 0)", "sides(2, 2)", "sides(0, 3)", "sides(3, 0)", "sides(-1, 0)", "sides(0, -1)", "sides(3, 3)");
+        x.due(-1, "sides(0, 0)", "sides(2, 2)", "sides(0, 3)", "sides(3, 0)", "sides(-1, 0)", "sides(0, -1)",
+                "sides(3, 3)");
         x.due(-1, "sides(MIN, 0)", "sides(0, MAX)", "sides(-1, -1)");
         x.due(-3, "sides(0, 2)", "sides(2, 1)").due(1, "sides(0, 1)");
-        x.due(-1, "sides(0, 0)", "sides(1, 3)").due(-3, "sides(0, 2)", "sides(2, 1)").due(-5, "sides(0, 1)", "sides(1, 0)");
+        x.due(-1, "sides(0, 0)", "sides(1, 3)").due(-3, "sides(0, 2)", "sides(2, 1)")
+                .due(-5, "sides(0, 1)", "sides(1, 0)");
     }
 
     private static void sideAlready() {
         Run x = run("NO: one is a SIDE already.");
         x.by(4, "page(1, 1)").due(1, "sides(2, 1)");
-        x.due(-5, "sides(1, 2)", "sides(2, 1)", "sides(0, 1)", "sides(1, 0)", "sides(0, 2)", "sides(2, 0)", "sides(3, 2)");
+        x.due(-5, "sides(1, 2)", "sides(2, 1)", "sides(0, 1)", "sides(1, 0)", "sides(0, 2)", "sides(2, 0)",
+                "sides(3, 2)");
         x.due(-6, "ofPage(0, 2)", "ofPage(3, 2)").due(1, "ofPage(2, 2)").due(2, "ofPage(1, 2)").due(1, "sides(3, 0)");
         x.due(0, "ofPage(3, 2)").due(3, "ofPage(0, 2)").due(-5, "sides(0, 1)");
     }
@@ -295,7 +300,8 @@ public final class PagesEdgesTest {
         x.due(9, "ofPage(0, 0)").due(99, "ofPage(0, 1)").due(-6, "ofPage(0, 2)").due(2, "ofPage(0, 3)");
         x.due(1, "ofPage(1, 3)").due(0, "ofPage(2, 3)").due(11, "ofPage(0, 100)").due(22, "ofPage(0, 159)");
         x.due(-6, "ofPage(0, 101)", "ofPage(0, 158)", "ofPage(2, 100)");
-        x.due(-2, "ofPage(0, -1)", "ofPage(0, 4)", "ofPage(0, 99)", "ofPage(0, 160)", "ofPage(0, MIN)", "ofPage(0, MAX)");
+        x.due(-2, "ofPage(0, -1)", "ofPage(0, 4)", "ofPage(0, 99)", "ofPage(0, 160)", "ofPage(0, MIN)",
+                "ofPage(0, MAX)");
         x.due(-1, "ofPage(3, 0)", "ofPage(-1, 0)", "ofPage(3, 4)", "ofPage(MIN, 100)", "ofPage(MAX, 160)");
         x.by("sides(0, 1)").due(1, "ofPage(0, 2)").due(0, "ofPage(1, 2)").due(-6, "ofPage(2, 2)");
     }
@@ -305,10 +311,12 @@ public final class PagesEdgesTest {
         x.by("page(0, 0)");
         x.due(-2, "piece(0, 1, 0, 0, 0)", "piece(0, 5, 4, 0, 9)", "piece(0, 0, 0, 1, 0)", "piece(0, 0, 5, 9, 8)");
         x.due(-2, "piece(0, -1, 0, 0, 0)", "piece(0, 0, 6, 0, 0)", "piece(0, 0, 0, -1, 0)", "piece(0, 0, 0, 0, 10)");
-        x.due(-2, "piece(0, MIN, 0, 0, 0)", "piece(0, 0, MAX, 0, 0)", "piece(0, 0, 0, MIN, 0)", "piece(0, 0, 0, 0, MAX)");
+        x.due(-2, "piece(0, MIN, 0, 0, 0)", "piece(0, 0, MAX, 0, 0)", "piece(0, 0, 0, MIN, 0)",
+                "piece(0, 0, 0, 0, MAX)");
         x.due(-2, "piece(0, 0, -1, 0, 0)", "piece(0, 6, 5, 0, 0)", "piece(0, 0, 0, 0, -1)", "piece(0, 0, 0, 10, 9)");
         x.due(-1, "piece(1, 0, 0, 0, 0)", "piece(-1, 0, 0, 0, 0)", "piece(1, 1, 0, 0, 0)", "piece(MAX, 0, 0, 0, 10)");
-        x.due(0, "told(1)").due(0, "piece(0, 0, 0, 0, 0)").due(1, "piece(0, 5, 5, 9, 9)").due(2, "piece(0, 4, 5, 8, 9)");
+        x.due(0, "told(1)").due(0, "piece(0, 0, 0, 0, 0)").due(1, "piece(0, 5, 5, 9, 9)")
+                .due(2, "piece(0, 4, 5, 8, 9)");
         x.due(3, "piece(0, 0, 5, 0, 9)").by(20, "piece(0, 0, 0, 0, 0)");
         x.due(-4, "piece(0, 0, 0, 0, 0)").due(-2, "piece(0, 1, 0, 0, 0)", "piece(0, 0, 6, 0, 0)");
         x.due(-1, "piece(1, 0, 0, 0, 0)", "piece(1, 1, 0, 0, 0)");
@@ -317,11 +325,13 @@ public final class PagesEdgesTest {
     private static void about() {
         Run x = run("4 the first one of its FAMILY, 5 how many are in that. UNKNOWN; OUTSIDE.");
         x.by("page(0, 7)", "page(0, 7)", "page(0, 6)", "write(1, 0, 3)", "write(2, 0, 3)");
-        x.by("piece(1, 0, 0, 0, 9)", "piece(2, 0, 0, 0, 9)", "piece(1, 5, 5, 0, 9)").order("3", false).order("3", false);
+        x.by("piece(1, 0, 0, 0, 9)", "piece(2, 0, 0, 0, 9)", "piece(1, 5, 5, 0, 9)").order("3", false)
+                .order("3", false);
         x.due(1, "about(0, 0)").due(1, "about(0, 1)").due(0, "about(0, 2)", "about(0, 3)");
         x.due(1, "about(0, 4)").due(2, "about(0, 5)");
         x.due(0, "about(2, 1)").due(2, "about(2, 4)").due(1, "about(2, 5)");
-        x.by("file(0, 15)", "send(0, 1)").due(15, "about(0, 2)").due(2, "about(0, 3)").by("send(0, 0)").due(3, "about(0, 3)");
+        x.by("file(0, 15)", "send(0, 1)").due(15, "about(0, 2)").due(2, "about(0, 3)").by("send(0, 0)")
+                .due(3, "about(0, 3)");
         x.due(-2, "about(0, -1)", "about(0, 6)", "about(0, MIN)", "about(0, MAX)");
         x.due(-1, "about(3, 0)", "about(-1, 0)", "about(3, 6)", "about(-1, -1)", "about(MIN, 4)", "about(MAX, 5)");
     }

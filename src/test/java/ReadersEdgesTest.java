@@ -40,7 +40,8 @@ public final class ReadersEdgesTest {
     }
 
     private static Run fractions(Run x, int allUpper, int allLower, int missedUpper, int missedLower) {
-        x.due(allUpper, "misses(0, 1, 0, 0)", "misses(1, 0, 0, 0)").due(allLower, "misses(0, 1, 0, 1)", "misses(1, 0, 0, 1)");
+        x.due(allUpper, "misses(0, 1, 0, 0)", "misses(1, 0, 0, 0)")
+                .due(allLower, "misses(0, 1, 0, 1)", "misses(1, 0, 0, 1)");
         x.due(missedUpper, "misses(0, 1, 1, 0)", "misses(1, 0, 1, 0)");
         return x.due(missedLower, "misses(0, 1, 1, 1)", "misses(1, 0, 1, 1)");
     }
@@ -56,11 +57,13 @@ public final class ReadersEdgesTest {
     private static void readers() {
         Run x = run("READERS 0 to 3 FIND PIECES.");
         x.by("page(0, 0)", "piece(0, 0, 0, 0, 0)");
-        x.due(-1, "find(-1, 0, true)", "find(4, 0, true)", "reader(-1, 0, 1)", "reader(4, 0, 1)", "slips(-1, 0, 1)", "slips(4, 0, 1)");
+        x.due(-1, "find(-1, 0, true)", "find(4, 0, true)", "reader(-1, 0, 1)", "reader(4, 0, 1)", "slips(-1, 0, 1)",
+                "slips(4, 0, 1)");
         x.due(-1, "misses(-1, 0, 0, 0)", "misses(4, 0, 0, 0)", "misses(0, -1, 0, 0)", "misses(0, 4, 0, 0)");
         x.due(0, "find(0, 0, true)", "find(3, 0, true)").due(50, "reader(0, 0, 1)", "reader(3, 0, 2)");
         x.due(0, "slips(0, 0, 1)", "slips(3, 0, 2)").due(1, "misses(0, 3, 0, 0)", "misses(3, 0, 0, 1)");
-        x.due(1, "find(0, 0, true)", "find(3, 0, true)", "reader(0, 0, 1)", "slips(0, 0, 1)").due(2, "reader(3, 0, 1)", "slips(3, 0, 1)");
+        x.due(1, "find(0, 0, true)", "find(3, 0, true)", "reader(0, 0, 1)", "slips(0, 0, 1)")
+                .due(2, "reader(3, 0, 1)", "slips(3, 0, 1)");
         x.due(0, "find(1, 0, true)", "find(2, 0, true)");
     }
 
@@ -127,7 +130,8 @@ public final class ReadersEdgesTest {
 
     private static void slipsOfPapers() {
         Run x = run("misses so many on one of each PAPER (0 to 100; 0 at first)");
-        x.by("page(9, 0)", "page(0, 0)").due(-2, "slips(0, 9, -1)", "slips(0, 9, 101)", "slips(0, 9, MIN)", "slips(0, 9, MAX)");
+        x.by("page(9, 0)", "page(0, 0)")
+                .due(-2, "slips(0, 9, -1)", "slips(0, 9, 101)", "slips(0, 9, MIN)", "slips(0, 9, MAX)");
         x.by("reader(1, 1, 0)", "reader(2, 1, 0)", "reader(3, 1, 0)");
         parts(x, 3, 0, 0, 0).due(0, "slips(0, 9, 100)");
         parts(x, 3, 100, 0, 0).due(0, "slips(0, 0, 1)");
@@ -195,7 +199,8 @@ public final class ReadersEdgesTest {
 
     private static void readerBeforeNobody() {
         Run x = run("(READERS 0 to 3, nobody last)");
-        x.by("page(0, 0)", "page(0, 0)", "set(3, 7)").by("slips(0, 0, 8)", "slips(1, 0, 8)", "slips(2, 0, 8)", "slips(3, 0, 7)");
+        x.by("page(0, 0)", "page(0, 0)", "set(3, 7)")
+                .by("slips(0, 0, 8)", "slips(1, 0, 8)", "slips(2, 0, 8)", "slips(3, 0, 7)");
         parts(x, 3, 14, 3, 3).by("reader(3, 1, 50)");
         parts(x, 3, 14, 3, 4).by("slips(3, 0, 8)");
         parts(x, 3, 14, 4, 4).by("set(3, 8)");
@@ -219,45 +224,59 @@ public final class ReadersEdgesTest {
         Run x = run("A READER FINDS a PIECE, or not: whether so (1, 0). UNKNOWN.");
         x.due(-1, "find(0, 0, true)").by("page(0, 0)").by(24, "piece(0, 0, 0, 0, 0)");
         x.due(0, "find(3, 23, false)", "find(3, 23, true)").due(1, "find(3, 23, true)", "find(3, 23, false)");
-        x.due(0, "find(3, 23, false)", "find(0, 0, true)", "find(1, 0, false)", "find(0, 1, false)").due(1, "find(0, 0, false)");
-        x.due(-1, "find(4, 0, true)", "find(-1, 0, true)", "find(0, 24, true)", "find(0, -1, false)", "find(4, 24, true)");
-        x.due(-1, "find(MIN, 0, true)", "find(0, MAX, true)", "find(0, MIN, true)", "find(0, 32, true)").due(0, "find(0, 0, false)");
+        x.due(0, "find(3, 23, false)", "find(0, 0, true)", "find(1, 0, false)", "find(0, 1, false)")
+                .due(1, "find(0, 0, false)");
+        x.due(-1, "find(4, 0, true)", "find(-1, 0, true)", "find(0, 24, true)", "find(0, -1, false)",
+                "find(4, 24, true)");
+        x.due(-1, "find(MIN, 0, true)", "find(0, MAX, true)", "find(0, MIN, true)", "find(0, 32, true)")
+                .due(0, "find(0, 0, false)");
     }
 
     private static void misses() {
         Run x = run("ALL (what = 0), MISSED (1) by two READERS. UNKNOWN: also both are one; OUTSIDE.");
         x.by("page(0, 0)", "piece(0, 0, 0, 0, 0)", "find(2, 0, true)", "find(3, 0, true)");
         x.due(1, "misses(2, 3, 0, 0)", "misses(3, 2, 0, 1)", "misses(2, 3, 1, 1)").due(0, "misses(2, 3, 1, 0)");
-        x.due(-1, "misses(2, 2, 0, 0)", "misses(0, 0, 2, 0)", "misses(4, 2, 0, 0)", "misses(2, 4, 0, 0)", "misses(-1, 2, 0, 0)");
+        x.due(-1, "misses(2, 2, 0, 0)", "misses(0, 0, 2, 0)", "misses(4, 2, 0, 0)", "misses(2, 4, 0, 0)",
+                "misses(-1, 2, 0, 0)");
         x.due(-1, "misses(2, -1, 0, 2)", "misses(MIN, 0, 0, 0)", "misses(0, MAX, 0, 0)", "misses(4, 4, 0, 0)");
-        x.due(-2, "misses(2, 3, -1, 0)", "misses(2, 3, 2, 0)", "misses(2, 3, 0, -1)", "misses(2, 3, 0, 2)", "misses(2, 3, 2, 2)");
+        x.due(-2, "misses(2, 3, -1, 0)", "misses(2, 3, 2, 0)", "misses(2, 3, 0, -1)", "misses(2, 3, 0, 2)",
+                "misses(2, 3, 2, 2)");
         x.due(-2, "misses(0, 1, MIN, 0)", "misses(0, 1, 0, MAX)", "misses(0, 1, 2, 0)", "misses(0, 1, 0, 2)");
     }
 
     private static void reader() {
         Run x = run("Of a READER: 0 minutes a PAGE, 1 minutes in all: which it was. UNKNOWN; OUTSIDE.");
-        x.due(50, "reader(3, 0, 100)").due(100, "reader(3, 0, 1)").due(100, "reader(3, 1, 0)").due(0, "reader(3, 1, 1000)");
+        x.due(50, "reader(3, 0, 100)").due(100, "reader(3, 0, 1)").due(100, "reader(3, 1, 0)")
+                .due(0, "reader(3, 1, 1000)");
         x.due(-2, "reader(3, 0, 0)", "reader(3, 0, 101)", "reader(3, 1, -1)", "reader(3, 1, 1001)");
-        x.due(-2, "reader(3, -1, 50)", "reader(3, 2, 50)", "reader(3, MIN, 50)", "reader(3, MAX, 50)", "reader(3, 2, 1001)");
-        x.due(-1, "reader(4, 0, 50)", "reader(-1, 1, 50)", "reader(4, 2, 50)", "reader(4, 0, 0)", "reader(MIN, 0, 1)", "reader(MAX, 0, 1)");
-        x.due(1, "reader(3, 0, 1)").due(1000, "reader(3, 1, 1000)").due(50, "reader(2, 0, 50)").due(100, "reader(2, 1, 100)");
+        x.due(-2, "reader(3, -1, 50)", "reader(3, 2, 50)", "reader(3, MIN, 50)", "reader(3, MAX, 50)",
+                "reader(3, 2, 1001)");
+        x.due(-1, "reader(4, 0, 50)", "reader(-1, 1, 50)", "reader(4, 2, 50)", "reader(4, 0, 0)",
+                "reader(MIN, 0, 1)", "reader(MAX, 0, 1)");
+        x.due(1, "reader(3, 0, 1)").due(1000, "reader(3, 1, 1000)").due(50, "reader(2, 0, 50)")
+                .due(100, "reader(2, 1, 100)");
     }
 
     private static void slips() {
         Run x = run("What a READER misses on a PAGE of a PAPER: what it was. UNKNOWN: the READER; OUTSIDE.");
         x.due(0, "slips(3, 9, 100)").due(100, "slips(3, 9, 0)").due(0, "slips(3, 0, 7)", "slips(0, 9, 8)");
-        x.due(-2, "slips(3, -1, 0)", "slips(3, 10, 0)", "slips(3, 0, -1)", "slips(3, 0, 101)", "slips(3, MIN, 0)", "slips(3, MAX, 0)");
-        x.due(-1, "slips(4, 0, 0)", "slips(-1, 0, 0)", "slips(4, 10, 0)", "slips(-1, 0, 101)", "slips(MIN, 0, 0)", "slips(MAX, 0, 0)");
+        x.due(-2, "slips(3, -1, 0)", "slips(3, 10, 0)", "slips(3, 0, -1)", "slips(3, 0, 101)", "slips(3, MIN, 0)",
+                "slips(3, MAX, 0)");
+        x.due(-1, "slips(4, 0, 0)", "slips(-1, 0, 0)", "slips(4, 10, 0)", "slips(-1, 0, 101)", "slips(MIN, 0, 0)",
+                "slips(MAX, 0, 0)");
         x.due(7, "slips(3, 0, 0)").due(8, "slips(0, 9, 0)").due(0, "slips(3, 9, 0)");
     }
 
     private static void parted() {
         Run x = run("PARTED: the sum (i = -1), the READER of PAGE i (4: nobody; NONE: it is none of them).");
         x.due(0, "parted(0, -1)").due(-6, "parted(0, 0)", "parted(0, 7)").by(3, "page(0, 0)").by("set(3, 3)");
-        x.due(0, "parted(5, -1)", "parted(5, 0)", "parted(5, 2)").due(-6, "parted(5, 1)", "parted(5, 3)", "parted(5, 7)");
-        x.due(-6, "parted(5, -2)", "parted(5, MIN)", "parted(5, MAX)", "parted(5, 32)", "parted(5, 34)", "parted(0, 0)");
+        x.due(0, "parted(5, -1)", "parted(5, 0)", "parted(5, 2)")
+                .due(-6, "parted(5, 1)", "parted(5, 3)", "parted(5, 7)");
+        x.due(-6, "parted(5, -2)", "parted(5, MIN)", "parted(5, MAX)", "parted(5, 32)", "parted(5, 34)",
+                "parted(0, 0)");
         x.by("reader(0, 1, 0)", "reader(1, 1, 0)", "reader(2, 1, 0)", "reader(3, 1, 0)");
-        x.due(6, "parted(5, -1)").due(4, "parted(5, 0)", "parted(5, 2)").due(-6, "parted(5, 1)").due(0, "parted(0, -1)");
+        x.due(6, "parted(5, -1)").due(4, "parted(5, 0)", "parted(5, 2)").due(-6, "parted(5, 1)")
+                .due(0, "parted(0, -1)");
     }
 
     private static void partedBits() {
@@ -265,8 +284,10 @@ public final class ReadersEdgesTest {
         x.due(-2, "parted(1, -1)", "parted(-1, -1)", "parted(MIN, -1)", "parted(MAX, -1)").due(0, "parted(0, -1)");
         for (int pages = 1; pages <= 8; pages++) {
             x.by("page(0, 0)").due(0, "parted(" + ((1 << pages) - 1) + ", -1)", "parted(" + (1 << pages - 1) + ", -1)");
-            x.due(-2, "parted(" + (1 << pages) + ", -1)", "parted(" + (1 << pages) + ", 0)", "parted(-1, 0)", "parted(-1, -2)");
+            x.due(-2, "parted(" + (1 << pages) + ", -1)", "parted(" + (1 << pages) + ", 0)", "parted(-1, 0)",
+                    "parted(-1, -2)");
         }
-        x.due(-2, "parted(256, 9)", "parted(MIN, 0)", "parted(MAX, 9)").due(-6, "parted(255, 8)").due(3, "parted(255, 7)");
+        x.due(-2, "parted(256, 9)", "parted(MIN, 0)", "parted(MAX, 9)").due(-6, "parted(255, 8)")
+                .due(3, "parted(255, 7)");
     }
 }

@@ -74,7 +74,8 @@ public final class RefusedTest {
         }
         by("sides(0, 1)", "sides(4, 5)");
         for (int i = 0; i < 24; i++) {
-            by("write(" + i % 8 + ", " + i + ", " + i % 5 + ")", "piece(" + i % 8 + ", 0, " + i % 3 + ", 0, " + i % 10 + ")");
+            by("write(" + i % 8 + ", " + i + ", " + i % 5 + ")");
+            by("piece(" + i % 8 + ", 0, " + i % 3 + ", 0, " + i % 10 + ")");
         }
         for (int i = 0; i < 10; i++) {
             say(i % 2 == 0 ? "!9" : "0|1");
@@ -227,8 +228,10 @@ public final class RefusedTest {
         return new String[][] {
             {"-2", "page(-1, 0)", "page(10, 0)", "page(0, -1)", "page(0, 100)", "page(10, 100)"},
             {"-1", "write(-1, 0, 1)", "write(6, 0, 1)", "write(6, 60, 100)", "write(MAX, 0, 1)"},
-            {"-2", "write(1, -1, 1)", "write(1, 60, 1)", "write(1, 0, -2)", "write(1, 0, 100)", "write(0, 60, 1)", "write(0, 5, 100)"},
-            {"-3", "write(0, 5, 8)", "write(0, 59, 8)", "write(0, 5, -1)", "write(1, 5, 8)", "write(2, 5, 8)", "write(3, 5, 8)"},
+            {"-2", "write(1, -1, 1)", "write(1, 60, 1)", "write(1, 0, -2)", "write(1, 0, 100)", "write(0, 60, 1)",
+                "write(0, 5, 100)"},
+            {"-3", "write(0, 5, 8)", "write(0, 59, 8)", "write(0, 5, -1)", "write(1, 5, 8)", "write(2, 5, 8)",
+                "write(3, 5, 8)"},
             {"-1", "sides(0, 6)", "sides(6, 0)", "sides(-1, 0)", "sides(0, 0)", "sides(4, 4)", "sides(MIN, MAX)"},
             {"-3", "sides(0, 2)", "sides(0, 3)", "sides(2, 4)", "sides(3, 4)"},
             {"-5", "sides(0, 1)", "sides(1, 0)", "sides(4, 0)", "sides(1, 5)"},
@@ -243,24 +246,30 @@ public final class RefusedTest {
                 "order(0, 1024, 0, 0, 0, true)", "order(0, 1, -1, 0, 0, true)", "order(0, 1, 0, 100, 0, true)",
                 "order(0, 1, 1, 0, 0, true)", "order(0, 1, 0, 0, -1, true)", "order(0, 1, 0, 0, 21, true)"},
             {"-5", "order(0, 1, 0, 0, 0, true)", "order(5, 1023, 0, 99, 20, false)"},
-            {"-1", "wants(6, 0, 0)", "wants(-1, 0, 0)", "wants(0, 10, 0)", "wants(0, -1, 2)", "changes(10, 0)", "changes(0, -1)"},
+            {"-1", "wants(6, 0, 0)", "wants(-1, 0, 0)", "wants(0, 10, 0)", "wants(0, -1, 2)", "changes(10, 0)",
+                "changes(0, -1)"},
             {"-2", "wants(0, 0, 2)", "wants(0, 0, -1)", "set(-1, 1)", "set(9, 1)"},
             {"-2", "set(0, -1)", "set(0, 101)", "set(1, -1)", "set(1, 21)", "set(2, 0)", "set(2, 1001)", "set(3, -1)",
                 "set(3, 1001)", "set(4, 0)", "set(4, 101)", "set(5, -1)", "set(5, 1001)", "set(6, -1)", "set(6, 1001)",
                 "set(7, -1)", "set(7, 1001)", "set(8, -1)", "set(8, 1001)"},
             {"-1", "list(6, 0, -1)", "list(-1, 100, -1)"},
             {"-2", "list(0, -1, -1)", "list(0, 100, 0)"},
-            {"-1", "name(-1, 5)", "name(4, 5)", "name(4, 100)", "counts(-1, 1, 1)", "counts(4, 1, 1)", "counts(4, 100, 101)"},
-            {"-2", "name(0, -2)", "name(0, 100)", "counts(0, -1, 1)", "counts(0, 100, 1)", "counts(0, 1, -101)", "counts(0, 1, 101)"},
+            {"-1", "name(-1, 5)", "name(4, 5)", "name(4, 100)", "counts(-1, 1, 1)", "counts(4, 1, 1)",
+                "counts(4, 100, 101)"},
+            {"-2", "name(0, -2)", "name(0, 100)", "counts(0, -1, 1)", "counts(0, 100, 1)", "counts(0, 1, -101)",
+                "counts(0, 1, 101)"},
             {"-1", "likely(-1, 0, 0)", "likely(4, 0, 3)", "likely(0, 10, 0)", "likely(0, -1, -1)"},
             {"-2", "likely(0, 0, 3)", "likely(0, 0, -1)"},
             {"-1", "asked(6, -1)", "asked(-1, 0)", "served(6, 1, 0)", "served(-1, 0, 2)"},
             {"-2", "served(0, 0, 0)", "served(0, 5, 0)", "served(0, 1, -1)", "served(0, 1, 2)"},
-            {"-1", "find(-1, 0, true)", "find(4, 0, true)", "find(0, 10, true)", "find(0, -1, true)", "find(0, 32, false)"},
+            {"-1", "find(-1, 0, true)", "find(4, 0, true)", "find(0, 10, true)", "find(0, -1, true)",
+                "find(0, 32, false)"},
             {"-1", "misses(0, 0, 0, 0)", "misses(4, 0, 0, 0)", "misses(0, -1, 2, 2)"},
             {"-2", "misses(0, 1, 2, 0)", "misses(0, 1, -1, 0)", "misses(0, 1, 0, 2)", "misses(0, 1, 0, -1)"},
-            {"-1", "reader(-1, 0, 1)", "reader(4, 0, 1)", "reader(4, 2, 0)", "slips(-1, 3, 1)", "slips(4, 3, 1)", "slips(4, 10, 101)"},
-            {"-2", "reader(0, -1, 1)", "reader(0, 2, 1)", "reader(0, 0, 0)", "reader(0, 0, 101)", "reader(0, 1, -1)", "reader(0, 1, 1001)"},
+            {"-1", "reader(-1, 0, 1)", "reader(4, 0, 1)", "reader(4, 2, 0)", "slips(-1, 3, 1)", "slips(4, 3, 1)",
+                "slips(4, 10, 101)"},
+            {"-2", "reader(0, -1, 1)", "reader(0, 2, 1)", "reader(0, 0, 0)", "reader(0, 0, 101)", "reader(0, 1, -1)",
+                "reader(0, 1, 1001)"},
             {"-2", "slips(0, -1, 1)", "slips(0, 10, 1)", "slips(0, 3, -1)", "slips(0, 3, 101)"},
             {"-2", "parted(-1, -1)", "parted(64, -1)", "parted(64, 0)", "parted(MIN, 9)"},
             {"-1", "send(-1, 0)", "send(10, 0)", "send(0, -1)", "send(0, 6)", "send(10, 4)"},
@@ -269,7 +278,8 @@ public final class RefusedTest {
             {"-1", "miss(-1)", "miss(6)", "bill(-1, 0)", "bill(6, 2)", "file(-1, 1)", "file(10, 1)", "file(10, 16)"},
             {"-2", "bill(0, -1)", "bill(0, 2)", "file(0, -1)", "file(0, 16)", "file(6, 16)"},
             {"-1", "old(-1, 0, 0, 0)", "old(4, -1, 100, 0)"},
-            {"-2", "old(0, -1, 0, 0)", "old(0, 0, 100, 0)", "old(0, 100, 0, -1)", "told(-1)", "told(6)", "told(9)", "told(19)"}};
+            {"-2", "old(0, -1, 0, 0)", "old(0, 0, 100, 0)", "old(0, 100, 0, -1)", "told(-1)", "told(6)", "told(9)",
+                "told(19)"}};
     }
 
     private static String[][] fullRefusals() {
@@ -281,9 +291,11 @@ public final class RefusedTest {
             {"-4", "piece(0, 0, 0, 0, 0)", "piece(7, 0, 5, 0, 9)"},
             {"-2", "say(32)", "say(127)"},
             {"-4", "say(33)", "say(49)", "say(126)"},
-            {"-2", "order(6, 1, 0, 0, 0, true)", "order(0, 1024, 0, 0, 0, true)", "order(0, 1, 1, 0, 0, true)", "order(0, 1, 0, 0, 21, true)"},
+            {"-2", "order(6, 1, 0, 0, 0, true)", "order(0, 1024, 0, 0, 0, true)", "order(0, 1, 1, 0, 0, true)",
+                "order(0, 1, 0, 0, 21, true)"},
             {"-4", "order(0, 1, 0, 0, 0, true)", "order(5, 1023, 0, 99, 20, false)"},
-            {"-1", "write(8, 0, 0)", "sides(0, 8)", "sides(7, 7)", "send(24, 0)", "send(0, 10)", "file(24, 0)", "find(0, 24, true)"},
+            {"-1", "write(8, 0, 0)", "sides(0, 8)", "sides(7, 7)", "send(24, 0)", "send(0, 10)", "file(24, 0)",
+                "find(0, 24, true)"},
             {"-3", "write(0, 0, 9)", "write(0, 59, -1)", "write(4, 0, 9)", "sides(3, 4)", "sides(0, 4)", "send(8, 2)"},
             {"-5", "sides(0, 1)", "sides(0, 2)", "sides(3, 1)", "sides(6, 5)", "send(8, 8)"},
             {"-2", "parted(256, -1)", "parted(-1, -1)", "file(23, 16)", "file(23, -1)"}};

@@ -53,8 +53,10 @@ public final class SentEdgesTest {
         x.by("piece(0, 0, 0, 0, 0)", "piece(0, 0, 0, 0, 0)", "piece(1, 0, 0, 0, 0)", "piece(0, 5, 5, 0, 0)");
         x.say("1").by("order(0, 1, 0, 99, 1, false)").order("1", true).say("1").by("order(0, 1, 0, 0, 20, false)");
         x.say("1").by("order(0, 1, 0, 99, 0, false)").say("1").by("order(0, 1022, 0, 99, 20, false)");
-        x.due(-3, "send(1, 0)", "send(1, 1)", "send(2, 1)", "send(2, 2)", "send(0, 3)", "send(0, 4)", "send(3, 0)", "send(3, 2)");
-        x.due(0, "told(4)").due(1, "send(0, 0)", "send(2, 0)", "send(0, 1)", "send(0, 2)", "send(1, 2)").due(5, "told(4)");
+        x.due(-3, "send(1, 0)", "send(1, 1)", "send(2, 1)", "send(2, 2)", "send(0, 3)", "send(0, 4)", "send(3, 0)",
+                "send(3, 2)");
+        x.due(0, "told(4)").due(1, "send(0, 0)", "send(2, 0)", "send(0, 1)", "send(0, 2)", "send(1, 2)")
+                .due(5, "told(4)");
     }
 
     private static void onceToEach() {
@@ -92,7 +94,8 @@ public final class SentEdgesTest {
         sendTo(x, 199, 200).due(500, "bill(0, 0)");
         sendTo(x, 200, 201).due(501, "bill(0, 0)");
         sendTo(x, 201, 240).due(540, "bill(0, 0)").due(240, "bill(0, 1)", "told(4)");
-        x.by("set(5, 1000)", "set(6, 1000)", "set(7, 1000)").due(240000, "bill(0, 0)").by("set(7, 0)").due(200000, "bill(0, 0)");
+        x.by("set(5, 1000)", "set(6, 1000)", "set(7, 1000)").due(240000, "bill(0, 0)").by("set(7, 0)")
+                .due(200000, "bill(0, 0)");
         x.by("set(6, 0)").due(100000, "bill(0, 0)").by("set(5, 0)").due(0, "bill(0, 0)");
     }
 
@@ -104,7 +107,8 @@ public final class SentEdgesTest {
         for (int i = 0; i < 4; i++) {
             sendTo(x, i, i + 1).due(due[i], "bill(0, 0)");
         }
-        x.by("set(4, 2)").due(220, "bill(0, 0)").by("set(4, 3)").due(310, "bill(0, 0)").by("set(4, 4)").due(400, "bill(0, 0)");
+        x.by("set(4, 2)").due(220, "bill(0, 0)").by("set(4, 3)").due(310, "bill(0, 0)").by("set(4, 4)")
+                .due(400, "bill(0, 0)");
     }
 
     private static void tierBounds() {
@@ -130,7 +134,8 @@ public final class SentEdgesTest {
         x.due(-2, "set(8, -1)", "set(8, 1001)").by("page(0, 0)", "piece(0, 0, 0, 0, 0)", "set(5, 1000)");
         x.say("!1").by("order(5, 1, 0, 0, 1, false)").by("send(0, 0)").due(1000, "bill(5, 0)");
         x.due(1, "miss(5)").due(1000, "bill(5, 0)").due(0, "set(8, 1)").due(999, "bill(5, 0)").due(2, "miss(5)");
-        x.due(998, "bill(5, 0)").due(1, "miss(0)", "miss(4)").due(998, "bill(5, 0)").by("set(8, 500)").due(0, "bill(5, 0)");
+        x.due(998, "bill(5, 0)").due(1, "miss(0)", "miss(4)").due(998, "bill(5, 0)").by("set(8, 500)")
+                .due(0, "bill(5, 0)");
         x.by("set(8, 499)").due(2, "bill(5, 0)").by("set(8, 0)").due(1000, "bill(5, 0)").due(1, "bill(5, 1)");
     }
 
@@ -139,7 +144,8 @@ public final class SentEdgesTest {
         x.by("page(0, 0)", "piece(0, 0, 0, 0, 0)").say("!1").by("order(0, 1, 0, 0, 1, false)").by("set(8, 1)");
         x.due(0, "bill(0, 0)").by("miss(0)").due(0, "bill(0, 0)").by("send(0, 0)").due(2, "bill(0, 0)");
         x.by("miss(0)").due(1, "bill(0, 0)").by("miss(0)").due(0, "bill(0, 0)").by("miss(0)").due(0, "bill(0, 0)");
-        x.by("set(8, 1000)").due(0, "bill(0, 0)").by(400, "miss(0)").due(0, "bill(0, 0)").due(404, "told(5)").due(1, "bill(0, 1)");
+        x.by("set(8, 1000)").due(0, "bill(0, 0)").by(400, "miss(0)").due(0, "bill(0, 0)").due(404, "told(5)")
+                .due(1, "bill(0, 1)");
     }
 
     private static void filed() {
@@ -161,8 +167,10 @@ public final class SentEdgesTest {
             x.by("piece(" + i + ", 0, 0, 0, 0)", "file(" + i + ", 4)");
         }
         x.due(3, "old(2, 0, 99, -1)").due(2, "old(2, 1, 99, -1)", "old(2, 0, 98, -1)", "old(2, 0, 99, 2)");
-        x.due(1, "old(2, 1, 98, -1)", "old(2, 50, 50, -1)", "old(2, 50, 50, 0)", "old(2, 0, 49, -1)", "old(2, 51, 99, -1)");
-        x.due(0, "old(2, 1, 49, -1)", "old(2, 51, 98, -1)", "old(1, 0, 99, -1)", "old(3, 0, 99, -1)", "old(2, 0, 0, 0)");
+        x.due(1, "old(2, 1, 98, -1)", "old(2, 50, 50, -1)", "old(2, 50, 50, 0)", "old(2, 0, 49, -1)",
+                "old(2, 51, 99, -1)");
+        x.due(0, "old(2, 1, 49, -1)", "old(2, 51, 98, -1)", "old(1, 0, 99, -1)", "old(3, 0, 99, -1)",
+                "old(2, 0, 0, 0)");
         x.due(2, "old(2, 99, 99, 0)").due(-6, "old(2, 1, 49, 0)", "old(2, 0, 0, 1)");
     }
 
@@ -183,8 +191,10 @@ public final class SentEdgesTest {
 
     private static void send() {
         Run x = run("A PIECE is SENT to an ORDER: 1. UNKNOWN; STATE: it is not on its LIST; NO: it was SENT to it.");
-        x.due(-1, "send(0, 0)").by("page(0, 0)", "piece(0, 0, 0, 0, 0)").due(-1, "send(0, 0)").order("!1", false).order("1", false);
-        x.due(-1, "send(1, 0)", "send(-1, 0)", "send(0, 2)", "send(0, -1)", "send(1, 2)", "send(MIN, 0)", "send(0, MAX)");
+        x.due(-1, "send(0, 0)").by("page(0, 0)", "piece(0, 0, 0, 0, 0)").due(-1, "send(0, 0)").order("!1", false)
+                .order("1", false);
+        x.due(-1, "send(1, 0)", "send(-1, 0)", "send(0, 2)", "send(0, -1)", "send(1, 2)", "send(MIN, 0)",
+                "send(0, MAX)");
         x.due(-3, "send(0, 1)").due(0, "told(4)").due(1, "send(0, 0)").due(-5, "send(0, 0)").due(-3, "send(0, 1)");
         x.due(1, "told(4)", "about(0, 3)").due(-1, "send(1, 0)", "send(0, 2)");
     }
@@ -199,7 +209,8 @@ public final class SentEdgesTest {
     private static void miss() {
         Run x = run("A MISS of a CLIENT (0 to 5): how many. UNKNOWN.");
         x.due(-1, "miss(-1)", "miss(6)", "miss(MIN)", "miss(MAX)").due(0, "told(5)");
-        x.due(1, "miss(0)", "miss(5)").due(2, "miss(5)", "miss(0)").due(3, "miss(0)").due(5, "told(5)").due(-1, "miss(6)").due(5, "told(5)");
+        x.due(1, "miss(0)", "miss(5)").due(2, "miss(5)", "miss(0)").due(3, "miss(0)").due(5, "told(5)")
+                .due(-1, "miss(6)").due(5, "told(5)");
     }
 
     private static void bill() {
@@ -222,16 +233,20 @@ public final class SentEdgesTest {
         Run x = run("UNKNOWN; OUTSIDE: DAYS 0 to 99.");
         x.by("page(0, 0)", "page(0, 99)", "piece(0, 0, 0, 0, 0)", "piece(1, 0, 0, 0, 0)", "file(0, 9)", "file(1, 9)");
         x.due(2, "old(0, 0, 99, -1)", "old(3, 0, 99, -1)").due(0, "old(0, 0, 99, 0)").due(1, "old(3, 0, 99, 1)");
-        x.due(-2, "old(0, -1, 99, -1)", "old(0, 0, 100, -1)", "old(0, 100, 99, -1)", "old(0, 0, -1, -1)", "old(0, 100, -1, 0)");
+        x.due(-2, "old(0, -1, 99, -1)", "old(0, 0, 100, -1)", "old(0, 100, 99, -1)", "old(0, 0, -1, -1)",
+                "old(0, 100, -1, 0)");
         x.due(-2, "old(0, MIN, 99, 0)", "old(0, 0, MAX, 0)");
-        x.due(-1, "old(-1, 0, 99, -1)", "old(4, 0, 99, -1)", "old(4, -1, 0, 0)", "old(-1, 0, 100, 0)", "old(MIN, 0, 0, 0)", "old(MAX, 0, 0, 0)");
-        x.due(-6, "old(0, 0, 99, 2)", "old(0, 0, 99, -2)", "old(0, 0, 99, MIN)", "old(0, 0, 99, MAX)", "old(1, 0, 99, 0)");
+        x.due(-1, "old(-1, 0, 99, -1)", "old(4, 0, 99, -1)", "old(4, -1, 0, 0)", "old(-1, 0, 100, 0)",
+                "old(MIN, 0, 0, 0)", "old(MAX, 0, 0, 0)");
+        x.due(-6, "old(0, 0, 99, 2)", "old(0, 0, 99, -2)", "old(0, 0, 99, MIN)", "old(0, 0, 99, MAX)",
+                "old(1, 0, 99, 0)");
     }
 
     private static void fromAboveTo() {
         Run x = run("how many (i = -1; 0, if from is above to), the i-th; NONE.");
         x.by("page(0, 5)", "page(0, 6)", "piece(0, 0, 0, 0, 0)", "piece(1, 0, 0, 0, 0)", "file(0, 1)", "file(1, 1)");
-        x.due(2, "old(0, 5, 6, -1)").due(1, "old(0, 5, 5, -1)", "old(0, 6, 6, -1)").due(0, "old(0, 6, 5, -1)", "old(0, 99, 0, -1)");
+        x.due(2, "old(0, 5, 6, -1)").due(1, "old(0, 5, 5, -1)", "old(0, 6, 6, -1)")
+                .due(0, "old(0, 6, 5, -1)", "old(0, 99, 0, -1)");
         x.due(-6, "old(0, 6, 5, 0)", "old(0, 99, 0, 0)").due(-2, "old(0, 100, 0, -1)", "old(0, 0, -1, -1)");
     }
 
@@ -240,7 +255,8 @@ public final class SentEdgesTest {
         x.due(-2, "told(-1)", "told(6)", "told(9)", "told(19)", "told(MIN)", "told(MAX)", "told(7)", "told(8)");
         withMany(x).by(6, "page(0, 0)").by(40, "say(33)");
         sendTo(x, 0, 30).by(7, "miss(5)").by("miss(0)");
-        x.due(8, "told(0)").due(24, "told(1)").due(10, "told(2)").due(40, "told(3)").due(30, "told(4)").due(8, "told(5)");
+        x.due(8, "told(0)").due(24, "told(1)").due(10, "told(2)").due(40, "told(3)").due(30, "told(4)")
+                .due(8, "told(5)");
         for (int i = 0; i < 9; i++) {
             x.by("set(" + i + ", " + (20 - i) + ")").due(20 - i, "told(" + (10 + i) + ")");
         }

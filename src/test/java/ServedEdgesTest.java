@@ -11,6 +11,7 @@ public final class ServedEdgesTest {
         sheets();
         eachPairFromOneSheet();
         noTwoThatClash();
+        onePageAfterAnother();
         bothSides();
         oneForTwoOrders();
         mostPairs();
@@ -30,9 +31,11 @@ public final class ServedEdgesTest {
         Run x = run("pairs of an ORDER and a PIECE of that PAGE, or of its other SIDE");
         x.by(4, "page(0, 0)");
         x.by("piece(0, 0, 0, 0, 0)", "piece(1, 0, 0, 0, 0)", "piece(2, 0, 0, 0, 0)").order("!1", false);
-        x.due(1, "asked(0, -1)", "asked(1, -1)", "asked(2, -1)", "asked(1, 0)").due(0, "asked(3, -1)").by("sides(1, 3)");
+        x.due(1, "asked(0, -1)", "asked(1, -1)", "asked(2, -1)", "asked(1, 0)").due(0, "asked(3, -1)")
+                .by("sides(1, 3)");
         x.due(1, "asked(0, -1)", "asked(1, -1)", "asked(3, -1)", "asked(3, 0)").due(0, "asked(0, 0)");
-        x.by("sides(0, 2)").due(2, "asked(0, -1)", "asked(2, -1)", "asked(2, 1)").due(0, "asked(2, 0)").due(1, "asked(1, -1)");
+        x.by("sides(0, 2)").due(2, "asked(0, -1)", "asked(2, -1)", "asked(2, 1)").due(0, "asked(2, 0)")
+                .due(1, "asked(1, -1)");
     }
 
     private static void onItsList() {
@@ -95,19 +98,32 @@ public final class ServedEdgesTest {
     private static void eachPairFromOneSheet() {
         Run x = run("each pair from one sheet");
         x.by("page(0, 0)", "piece(0, 0, 0, 0, 4)", "piece(0, 0, 0, 5, 9)", "piece(0, 0, 5, 0, 9)").order("!1", false);
-        x.due(2, "served(0, 1, 0)").due(3, "served(0, 1, 1)").due(3, "served(0, 2, 0)").due(7, "served(0, 2, 1)", "served(0, 4, 1)");
+        x.due(2, "served(0, 1, 0)").due(3, "served(0, 1, 1)").due(3, "served(0, 2, 0)")
+                .due(7, "served(0, 2, 1)", "served(0, 4, 1)");
     }
 
     private static void noTwoThatClash() {
         Run x = run("no two PIECES of one sheet that CLASH");
-        x.by("page(0, 0)", "piece(0, 0, 2, 0, 4)", "piece(0, 2, 5, 4, 9)", "piece(0, 0, 1, 5, 9)", "piece(0, 3, 5, 0, 3)");
+        x.by("page(0, 0)", "piece(0, 0, 2, 0, 4)", "piece(0, 2, 5, 4, 9)", "piece(0, 0, 1, 5, 9)",
+                "piece(0, 3, 5, 0, 3)");
         x.order("!1", false);
         x.due(3, "served(0, 1, 0)").due(13, "served(0, 1, 1)").due(4, "served(0, 2, 0)").due(15, "served(0, 2, 1)");
     }
 
+    /** What was found of one page must not be left over for another. */
+    private static void onePageAfterAnother() {
+        Run x = run("SERVED from n sheets (1 to 4): each pair from one sheet, no two PIECES of one sheet that CLASH");
+        x.by("page(0, 0)", "page(0, 0)", "piece(0, 0, 0, 0, 1)", "piece(0, 0, 0, 1, 2)", "piece(0, 0, 0, 2, 3)");
+        x.by("piece(1, 0, 0, 0, 0)", "piece(1, 1, 1, 0, 0)", "piece(1, 2, 2, 0, 0)").order("!1", false);
+        x.due(5, "served(0, 1, 1)").due(7, "served(1, 1, 1)").due(5, "served(0, 1, 1)").due(7, "served(1, 1, 1)");
+        x.by("piece(1, 0, 2, 0, 0)").due(7, "served(1, 1, 1)").due(5, "served(0, 1, 1)").due(15, "served(1, 2, 1)");
+        x.due(7, "served(0, 2, 1)").due(7, "served(1, 1, 1)");
+    }
+
     private static void bothSides() {
         Run x = run("served from a few sheets that are printed on both sides");
-        x.by("page(0, 0)", "page(0, 0)", "piece(0, 0, 0, 0, 4)", "piece(1, 0, 0, 5, 9)", "piece(1, 0, 0, 0, 4)").order("!1", false);
+        x.by("page(0, 0)", "page(0, 0)", "piece(0, 0, 0, 0, 4)", "piece(1, 0, 0, 5, 9)", "piece(1, 0, 0, 0, 4)")
+                .order("!1", false);
         x.due(1, "served(0, 1, 0)").due(2, "served(1, 1, 0)").due(3, "served(1, 1, 1)").by("sides(0, 1)");
         x.due(2, "served(0, 1, 0)", "served(1, 1, 0)").due(5, "served(0, 1, 1)", "served(1, 1, 1)");
         x.due(3, "served(0, 2, 0)").due(7, "served(1, 2, 1)");
@@ -116,7 +132,8 @@ public final class ServedEdgesTest {
     private static void oneForTwoOrders() {
         Run x = run("(one PIECE for two ORDERS needs two sheets)");
         x.by("page(0, 0)", "piece(0, 0, 0, 0, 0)").order("!1", false).due(1, "served(0, 1, 0)", "served(0, 1, 1)");
-        x.order("!1", false).due(1, "served(0, 1, 0)", "served(0, 1, 1)").due(2, "served(0, 2, 0)").due(3, "served(0, 2, 1)");
+        x.order("!1", false).due(1, "served(0, 1, 0)", "served(0, 1, 1)").due(2, "served(0, 2, 0)")
+                .due(3, "served(0, 2, 1)");
         x.order("!1", false).order("!1", false).order("!1", false).due(4, "served(0, 4, 0)").due(15, "served(0, 4, 1)");
         x.due(3, "served(0, 3, 0)").due(7, "served(0, 3, 1)");
     }
@@ -133,7 +150,8 @@ public final class ServedEdgesTest {
 
     private static void firstOfSeveral() {
         Run x = run("of several such sets that which has the first pair in which two sets are not alike.");
-        x.by("page(0, 0)", "piece(0, 0, 0, 0, 1)", "piece(0, 0, 0, 1, 2)", "piece(0, 0, 0, 2, 3)", "piece(0, 0, 0, 3, 4)");
+        x.by("page(0, 0)", "piece(0, 0, 0, 0, 1)", "piece(0, 0, 0, 1, 2)", "piece(0, 0, 0, 2, 3)",
+                "piece(0, 0, 0, 3, 4)");
         x.order("!1", false).due(2, "served(0, 1, 0)").due(5, "served(0, 1, 1)");
         x.by("piece(0, 0, 0, 4, 4)").due(3, "served(0, 1, 0)").due(21, "served(0, 1, 1)");
         x.by("piece(0, 0, 0, 0, 9)").due(3, "served(0, 1, 0)").due(21, "served(0, 1, 1)");
@@ -154,14 +172,17 @@ public final class ServedEdgesTest {
         for (int i = 0; i < 9; i++) {
             x.say("2").by("order(0, 1023, 0, 99, 20, false)");
         }
-        x.due(0, "asked(0, -1)").due(-6, "asked(0, 0)").order("1", false).due(1, "asked(0, -1)").due(923, "asked(0, 0)");
-        x.due(-6, "asked(0, 1)", "asked(0, -2)", "asked(0, MIN)", "asked(0, MAX)", "asked(1, 0)").due(0, "asked(1, -1)");
+        x.due(0, "asked(0, -1)").due(-6, "asked(0, 0)").order("1", false).due(1, "asked(0, -1)")
+                .due(923, "asked(0, 0)");
+        x.due(-6, "asked(0, 1)", "asked(0, -2)", "asked(0, MIN)", "asked(0, MAX)", "asked(1, 0)")
+                .due(0, "asked(1, -1)");
         x.due(-1, "asked(2, -1)", "asked(-1, -1)", "asked(2, 0)", "asked(MIN, 0)", "asked(MAX, -2)");
     }
 
     private static void served() {
         Run x = run("SERVED from n sheets: pairs (what = 0), the set of them as bits (1). UNKNOWN; OUTSIDE.");
-        x.due(-1, "served(0, 1, 0)").by("page(0, 0)", "piece(0, 0, 0, 0, 0)", "piece(0, 0, 0, 0, 0)").order("!1", false);
+        x.due(-1, "served(0, 1, 0)").by("page(0, 0)", "piece(0, 0, 0, 0, 0)", "piece(0, 0, 0, 0, 0)")
+                .order("!1", false);
         x.due(1, "served(0, 1, 0)", "served(0, 1, 1)").due(2, "served(0, 4, 0)").due(3, "served(0, 4, 1)");
         x.due(-2, "served(0, 1, -1)", "served(0, 1, 2)", "served(0, 0, 0)", "served(0, 5, 1)", "served(0, 0, 2)");
         x.due(-2, "served(0, 1, MIN)", "served(0, 1, MAX)");
