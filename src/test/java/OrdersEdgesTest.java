@@ -19,6 +19,7 @@ public final class OrdersEdgesTest {
         nearOfOneWord();
         nearNever();
         farthestNear();
+        nearAtTheEnd();
         moreThanIsSo();
         bracketsAndTurns();
         bracketsByThemselves();
@@ -176,6 +177,16 @@ public final class OrdersEdgesTest {
         x.by("page(0, 0)").words(0, 0, 1).fill(0, 1, 8, 5).words(0, 9, 2, 3).by("piece(0, 0, 5, 0, 9)");
         x.so(1, 0, "1~9:2", 0).so(0, 1, "1~8:2", 0).so(0, 2, "1~9:3", 0).so(1, 3, "2~9:1", 0).so(0, 4, "3~9:1", 0);
         x.by("write(0, 4, -1)").due(1, "wants(1, 0, 1)", "wants(2, 0, 1)", "wants(4, 0, 1)");
+    }
+
+    /** Words that are gone count no more; the last of 60 words has none behind it. */
+    private static void nearAtTheEnd() {
+        Run x = run("it stands d or fewer WORDS from that other one (in either order");
+        x.by("page(0, 0)", "piece(0, 0, 5, 0, 9)").words(0, 0, 1, 2).so(1, 0, "1~1:2", 0).so(1, 1, "2~9:1", 0);
+        x.by("write(0, 1, -1)").due(0, "wants(0, 0, 1)", "wants(1, 0, 1)").by("write(0, 1, 2)", "write(0, 0, -1)");
+        x.due(0, "wants(0, 0, 1)", "wants(1, 0, 1)").fill(0, 0, 60, 1).due(0, "wants(0, 0, 1)", "wants(1, 0, 1)");
+        x.by("write(0, 59, 2)").due(1, "wants(0, 0, 1)", "wants(1, 0, 1)").by("write(0, 59, 1)", "write(0, 0, 2)");
+        x.due(1, "wants(0, 0, 1)", "wants(1, 0, 1)");
     }
 
     private static void moreThanIsSo() {
